@@ -1046,16 +1046,16 @@ public final class CountyCream {
 
         private long made(int mark, long left, long right) {
             switch (mark) {
-                case '|': case '&': return asNumber(right != 0);
-                case '<': return asNumber(left < right);
-                case '>': return asNumber(left > right);
-                case '=': return asNumber(left == right);
+                case '|': case '&': return right != 0 ? 1 : 0;
+                case '<': return left < right ? 1 : 0;
+                case '>': return left > right ? 1 : 0;
+                case '=': return left == right ? 1 : 0;
                 case '+': return left + right;
                 case '-': return left - right;
                 case '*': return left * right;
                 default:
                     if (right == 0 && needlessNow == 0) none = true;
-                    return cut(left, right);
+                    return right == 0 ? 0 : left / right;
             }
         }
 
@@ -1090,9 +1090,9 @@ public final class CountyCream {
         }
 
         private long popValue() {
-            long v = topValue();
-            if (valuesWait > 0) valuesWait--;
-            return v;
+            if (valuesWait <= 0 || valuesWait > values.length) return 0;
+            valuesWait--;
+            return values[valuesWait];
         }
     }
 
@@ -1109,7 +1109,9 @@ public final class CountyCream {
         int propose(int text, int from, int byCows) {
             int motion = motions.come(from, byCows, 0);
             if (motion == FULL) return FULL;
-            for (int i = 0; i <= TEXT_LENGTH; i++) motions.put(motion, MOTION_TEXT + i, house.texts.at(text, LENGTH + i));
+            for (int i = 0; i <= TEXT_LENGTH; i++) {
+                motions.put(motion, MOTION_TEXT + i, house.texts.at(text, LENGTH + i));
+            }
             for (int farm = 0; farm < FARMS; farm++) motions.put(motion, VOTES + farm, 0);
             return motion;
         }
@@ -1393,12 +1395,16 @@ public final class CountyCream {
     private static final class Blend {
         static final int CREAMS = 10;
         private static final int SETS = 1 << CREAMS, HOTTER_THAN_ANY = 1000;
+        /** A row of heaps is one number, four bits a CREAM, the least CREAM highest: the less number, the first row. */
+        private static final int DIGIT = 4, DIGIT_MASK = 15;
         final Rows creams;
-        /** Of each set: what it loses as one heap, and as heaps that lose least, how many these are and the first. */
+        /** Of each set: what it loses as one heap, and as heaps that lose least; how many these are, and their row. */
         final long[] asHeap = new long[SETS];
         final long[] least = new long[SETS];
         final int[] heaps = new int[SETS];
-        final int[] firstHeap = new int[SETS];
+        final long[] rows = new long[SETS];
+        /** Of each set the row with a 1 at each of its CREAMS. */
+        final long[] ones = new long[SETS];
 
         Blend(Rows creams) {
             this.creams = creams;
@@ -1410,9 +1416,14 @@ public final class CountyCream {
 
         void plan(int k) {
             for (int set = 1; set <= allCreams() && set < SETS; set++) {
+                ones[set] = ones[set & set - 1] + (1L << shiftOf(Integer.numberOfTrailingZeros(set)));
                 if (Integer.bitCount(set) <= k) asHeap[set] = lossAsHeap(set);
             }
             for (int set = 1; set <= allCreams() && set < SETS; set++) planSet(set, k);
+        }
+
+        private static int shiftOf(int cream) {
+            return DIGIT * (CREAMS - 1 - cream);
         }
 
         private long lossAsHeap(int set) {
@@ -1437,32 +1448,32 @@ public final class CountyCream {
             return Math.min(THOUSAND, loss) * fat / THOUSAND;
         }
 
-        /** The heap of the least CREAM is chosen, the others are those of the set that is left. */
+        /** The heap of the least CREAM is chosen; the others are those of the set that is left, found before. */
         private void planSet(int set, int k) {
             if (set < 1 || set >= SETS) return;
             int lowest = set & -set;
             int others = set ^ lowest;
-            firstHeap[set] = 0;
+            long leastCream = Integer.numberOfTrailingZeros(set);
+            heaps[set] = 0;
             for (int part = others; part >= 0; part = part == 0 ? -1 : part - 1 & others) {
                 int heap = part | lowest;
                 int left = set ^ heap;
                 if (Integer.bitCount(heap) > k || heap >= SETS || left >= SETS) continue;
                 long loss = asHeap[heap] + least[left];
                 int many = 1 + heaps[left];
-                if (firstHeap[set] != 0 && !isBetter(set, loss, many, heap)) continue;
+                long row = leastCream * ones[heap] + rows[left];
+                if (heaps[set] != 0 && !isBetter(set, loss, many, row)) continue;
                 least[set] = loss;
                 heaps[set] = many;
-                firstHeap[set] = heap;
+                rows[set] = row;
             }
         }
 
-        /** By rows: where two heaps of the same least CREAM first differ, the one that has the CREAM tells less. */
-        private boolean isBetter(int set, long loss, int many, int heap) {
+        private boolean isBetter(int set, long loss, int many, long row) {
             if (set < 0 || set >= SETS) return false;
             if (loss != least[set]) return loss < least[set];
             if (many != heaps[set]) return many < heaps[set];
-            int unlike = heap ^ firstHeap[set];
-            return (heap & unlike & -unlike) != 0;
+            return row < rows[set];
         }
 
         long lost() {
@@ -1472,12 +1483,8 @@ public final class CountyCream {
 
         int leastOfHeap(int cream) {
             int set = allCreams();
-            for (int i = 0; i < CREAMS && set > 0 && set < SETS; i++) {
-                int heap = firstHeap[set];
-                if (holds(heap, cream)) return Integer.numberOfTrailingZeros(heap);
-                set = set & ~heap;
-            }
-            return NONE;
+            if (set < 0 || set >= SETS) return NONE;
+            return (int) (rows[set] >> shiftOf(cream)) & DIGIT_MASK;
         }
     }
 
