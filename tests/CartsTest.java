@@ -57,6 +57,11 @@ public final class CartsTest {
         x.right(0, 1, 20);
         Due.due("34 as known", x.watered(0, 1, 19), 3);
         Due.due("34 as known", x.watered(0, 1, 20), 0);
+        CountyCream z = new CountyCream();
+        z.farm(1, 1, 1, true);
+        for (int day : new int[] {7, 8}) z.test(0, day, 0, 300, day);
+        for (int day : new int[] {0, 1, 2}) z.test(0, day, 0, 340, day);
+        Due.due("34 in any order", z.watered(0, 1, 195), 2);
         CountyCream y = new CountyCream();
         y.farm(1, 1, 1, true);
         y.test(0, 0, 0, 900, 0);

@@ -88,7 +88,16 @@ public final class ChurnsTest {
         Due.due("14 pence", x.about(0, 21, 6), 30);
         x.sell(1, 4, 22);
         Due.due("14 pence", x.about(0, 22, 6), 34);
-        Due.due("14 BAD churn", x.about(2, 0, 0), BAD);
+        x.can(0, 11, 1);
+        x.churn(20, 55);
+        x.fill(2, 3);
+        Due.due("14 9 days", x.about(2, 0, 1), 5 + 90);
+        CountyCream y = withFarms(1);
+        y.churn(20, 55);
+        y.can(0, 19, 1);
+        y.fill(0, 0);
+        Due.due("14 the first can", y.about(0, 0, 1), 15);
+        Due.due("14 BAD churn", x.about(3, 0, 0), BAD);
         Due.due("14 BAD churn", x.about(-1, 0, 0), BAD);
         Due.due("14 BAD K", x.about(0, 196, 0), BAD);
         Due.due("14 BAD K", x.about(0, -1, 0), BAD);
@@ -180,6 +189,9 @@ public final class ChurnsTest {
         Due.due("19 cut toward 0", x.lean(), -2);
         x.grade(2, 0, 78);
         Due.due("19 the last grade counts", x.lean(), 1);
+        x.sell(0, 3, 11);
+        Due.due("18 the other's, again", x.grade(0, 1, 54), 55);
+        Due.due("18 the first's stays", x.grade(0, 0, 50), 50);
     }
 
     private static void lots() {
@@ -209,6 +221,10 @@ public final class ChurnsTest {
         Due.due("20 greatest", x.lot(0, 1), 80);
         Due.due("20 mean", x.lot(0, 2), (49 + 80 + 41) / 3);
         Due.due("20 how many", x.lot(0, 3), 3);
+        x.grade(0, 0, 95);
+        Due.due("20 the first is the greatest", x.lot(0, 1), 95);
+        x.grade(0, 0, 1);
+        Due.due("20 the first is the least", x.lot(0, 0), 1);
         Due.due("20 BAD churn", x.lot(3, 0), -1000);
         Due.due("20 BAD churn", x.lot(-1, 0), -1000);
         Due.due("20 BAD what", x.lot(0, 4), -1000);

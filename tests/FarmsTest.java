@@ -231,6 +231,7 @@ public final class FarmsTest {
         x.churn(20, 55);
         x.fill(0, 2);
         Due.due("11 by their own days", x.fat(0, 1, 9), 30 * 400);
+        Due.due("11 the first can", x.fat(0, 0, 9), 1000 * 350);
         Due.due("11 BAD farm", x.fat(2, 0, 0), BAD);
         Due.due("11 BAD farm", x.fat(-1, 0, 0), BAD);
         Due.due("11 BAD week", x.fat(0, 28, 0), BAD);

@@ -78,6 +78,12 @@ public final class ImagesTest {
         Due.due("53 RATE", x.freight(1), 1);
         Due.due("53 L", x.period(1), 1);
         Due.due("53 yield", x.gives(2, 0), 0);
+        x.image(0);
+        for (int hand = 0; hand < 4; hand++) x.bias(hand, 40 + hand);
+        for (int week = 0; week < 52; week++) x.gives(week, 400);
+        x.from(0);
+        for (int hand = 0; hand < 4; hand++) Due.due("53 bias", x.bias(hand, 0), hand == 1 ? 1 : 0);
+        for (int week = 0; week < 52; week++) Due.due("53 yield", x.gives(week, 0), week == 1 ? 1 : 0);
         Due.due("53 vote", x.vote(0, 0, 1), 1);
         Due.due("53 not weighed out", x.churn(9, 55), 1);
         Due.due("53 not weighed out", x.about(1, 0, 4), NONE);

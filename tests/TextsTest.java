@@ -14,6 +14,7 @@ public final class TextsTest {
         tears();
         forces();
         moneys();
+        smallFat();
         shares();
         pays();
         Due.end();
@@ -299,6 +300,8 @@ public final class TextsTest {
         x.change(0, 10, true);
         expect(x, 0, new int[] {2, 0, 5, 0, 0}, "who is one again");
         Due.due("27 what it did", x.vote(0, 0, 1), 1);
+        Due.due("27 what another did", x.vote(0, 1, -1), 1);
+        Due.due("27 what it did by cows", x.vote(1, 3, 0), 1);
         Due.due("29 BAD motion", x.motionAt(2, 0), BAD);
         Due.due("29 BAD motion", x.motionAt(-1, 0), BAD);
         Due.due("29 BAD what", x.motionAt(0, 5), BAD);
@@ -370,6 +373,20 @@ public final class TextsTest {
         Due.due("31 BAD K", x.money(0, -1), BAD);
     }
 
+    private static void smallFat() {
+        CountyCream x = new CountyCream();
+        x.farm(1, 1, 1, true);
+        x.can(0, 8, 1);
+        x.churn(8, 55);
+        x.fill(0, 0);
+        x.test(0, 8, 0, 99, 8);
+        x.test(0, 8, 0, 101, 9);
+        put(x, 0, "f");
+        Due.due("25 fat of 99", x.tells(0, 0, 1, 8), 0);
+        Due.due("33 fat of 99", x.share(1, 0, 8), 0);
+        Due.due("25 fat of 100", x.tells(0, 0, 1, 9), 1);
+    }
+
     /** FARMS 0 to 2 have a CAN of 100, 200, 300 in a CHURN of week 1, FARM 3 none there. */
     private static CountyCream withMilk() {
         CountyCream x = new CountyCream();
@@ -411,7 +428,13 @@ public final class TextsTest {
         Due.due("33 no cans there", x.share(1, 3, 195), 0);
         inForce(x, "10000*100000", 7);
         Due.due("33 just the most", x.share(1, 1, 195), 1000000000);
+        inForce(x, "+1", 7);
+        Due.due("33 a text with a FAULT is no motion", x.count(5), 5);
+        inForce(x, "1+1+1+1+1+1+1+1+1+1+1+1+1+1+1+1+1+1+1+1+1+1+1+1+1+1+1+1+1 +9", 7);
+        Due.due("33 a full text", x.share(1, 0, 195), 38);
+        Due.due("33 a full text, votes", x.motionAt(5, 0), 4);
         inForce(x, "r+c", 7);
+        x.fault(4);
         Due.due("33 names", x.share(1, 0, 195), 2);
         Due.due("33 names", x.share(1, 2, 195), 20);
         Due.due("33 BAD week", x.share(28, 0, 0), BAD);

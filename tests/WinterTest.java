@@ -156,7 +156,9 @@ public final class WinterTest {
         Due.due("50 at most", x.owed(2, 1000), 1000000000000L - 1);
         x.loan(1, 0, 100000);
         Due.due("50 part is more", x.owed(3, 1), 0);
-        Due.due("50 BAD loan", x.owed(4, 0), BAD);
+        x.loan(1001, 1, 1);
+        Due.due("50 a thousandth more is cut up", x.owed(4, 1), 1001 + 2 - 1);
+        Due.due("50 BAD loan", x.owed(5, 0), BAD);
         Due.due("50 BAD loan", x.owed(-1, 0), BAD);
         Due.due("50 BAD n", x.owed(0, 1001), BAD);
         Due.due("50 BAD n", x.owed(0, -1), BAD);

@@ -886,10 +886,11 @@ public final class CountyCream {
             faultFound = NONE;
             none = false;
             told = 0;
+            int next = 0;
             for (int i = 0; i < length && faultFound == NONE; i++) {
                 int sign = signAt(i);
-                if (sign == ' ') continue;
-                if (unitWanted && isDigit(sign)) i = Math.max(i, readNumber(i));
+                if (i < next || sign == ' ') continue;
+                if (unitWanted && isDigit(sign)) next = readNumber(i);
                 else if (unitWanted) readUnit(i, sign);
                 else if (sign == '?') readQuestion();
                 else if (sign == ':') readElse(i);
@@ -918,15 +919,15 @@ public final class CountyCream {
             else told = popValue();
         }
 
-        /** The place of its last digit. */
+        /** The place behind its last digit. */
         private int readNumber(int first) {
             long v = 0;
             int end = first;
             for (int i = first; i < length && isDigit(signAt(i)); i++) {
                 v = 10 * v + signAt(i) - '0';
-                end = i;
+                end = i + 1;
             }
-            if (end - first >= MOST_DIGITS) stop(first, LONG_NUMBER);
+            if (end - first > MOST_DIGITS) stop(first, LONG_NUMBER);
             else endUnit(v);
             return end;
         }
@@ -1415,11 +1416,12 @@ public final class CountyCream {
         }
 
         void plan(int k) {
-            for (int set = 1; set <= allCreams() && set < SETS; set++) {
+            int all = allCreams();
+            for (int set = 1; set <= all && set < SETS; set++) {
                 ones[set] = ones[set & set - 1] + (1L << shiftOf(Integer.numberOfTrailingZeros(set)));
                 if (Integer.bitCount(set) <= k) asHeap[set] = lossAsHeap(set);
             }
-            for (int set = 1; set <= allCreams() && set < SETS; set++) planSet(set, k);
+            for (int set = 1; set <= all && set < SETS; set++) planSet(set, k);
         }
 
         private static int shiftOf(int cream) {
@@ -1448,25 +1450,30 @@ public final class CountyCream {
             return Math.min(THOUSAND, loss) * fat / THOUSAND;
         }
 
-        /** The heap of the least CREAM is chosen; the others are those of the set that is left, found before. */
+        /** The least CREAM's heap is any part of the set that has it; what is left was planned before, being less. */
         private void planSet(int set, int k) {
             if (set < 1 || set >= SETS) return;
             int lowest = set & -set;
             int others = set ^ lowest;
-            long leastCream = Integer.numberOfTrailingZeros(set);
+            int part = others;
             heaps[set] = 0;
-            for (int part = others; part >= 0; part = part == 0 ? -1 : part - 1 & others) {
-                int heap = part | lowest;
-                int left = set ^ heap;
-                if (Integer.bitCount(heap) > k || heap >= SETS || left >= SETS) continue;
-                long loss = asHeap[heap] + least[left];
-                int many = 1 + heaps[left];
-                long row = leastCream * ones[heap] + rows[left];
-                if (heaps[set] != 0 && !isBetter(set, loss, many, row)) continue;
-                least[set] = loss;
-                heaps[set] = many;
-                rows[set] = row;
+            for (int step = 0; step < SETS; step++) {
+                if (Integer.bitCount(part) < k) tryHeap(set, part | lowest);
+                if (part == 0) break;
+                part = part - 1 & others;
             }
+        }
+
+        private void tryHeap(int set, int heap) {
+            int left = set ^ heap;
+            if (set < 1 || set >= SETS || heap < 1 || heap >= SETS || left < 0 || left >= SETS) return;
+            long loss = asHeap[heap] + least[left];
+            int many = 1 + heaps[left];
+            long row = Integer.numberOfTrailingZeros(heap) * ones[heap] + rows[left];
+            if (heaps[set] != 0 && !isBetter(set, loss, many, row)) return;
+            least[set] = loss;
+            heaps[set] = many;
+            rows[set] = row;
         }
 
         private boolean isBetter(int set, long loss, int many, long row) {
